@@ -17,6 +17,7 @@ final class LooksTest {
         promise14Together();
         promise15();
         promise16();
+        promise16Edges();
         promise16Blind();
         promise17();
         promise18();
@@ -66,6 +67,8 @@ final class LooksTest {
         due("12: its ghosts", walls.targetOf(1, 6), 1);
         due("12: its ghosts", walls.targetOf(2, 6), 1);
         due("12: no wall, no ghost", walls.targetOf(3, 6), 0);
+        walls.drop(3);
+        walls.target(25, 99, 0, false);
         walls.set(1, 30);
         due("12: 10 is too faint, but told by the one at 30", walls.targetOf(0, 4), 1);
         walls.set(1, 60);
@@ -118,6 +121,13 @@ final class LooksTest {
         due("13: ghost(0, 5)", x.ghost(0, 5), INVALID);
         due("13: ghost(0, -1)", x.ghost(0, -1), INVALID);
         due("13: ghost(6, 5)", x.ghost(6, 5), INVALID);
+        EchoTurns strengths = new EchoTurns();
+        strengths.target(10, 26, 0, true);
+        strengths.target(20, 23, 0, true);
+        strengths.target(30, 99, 0, true);
+        due("13: 598 by 200", strengths.ghost(0, 1), 2);
+        due("13: 2574 by 200", strengths.ghost(1, 1), 12);
+        due("13: 2277 by 200", strengths.ghost(2, 1), 11);
         x.set(1, 5);
         due("13: at 450, and 10 sounds by the wall at 150 alone", x.ghost(1, 4), 1);
         due("13: at 299, and 19 sounds by the ghost at 599", x.ghost(3, 4), 1);
@@ -265,6 +275,36 @@ final class LooksTest {
         due("16: true although it is too faint", y.told(7, 0), 60);
         due("16: true although it is too faint", y.told(7, 1), 5);
         due("16: true although it is too faint", y.told(7, 2), 1);
+    }
+
+    private static void promise16Edges() {
+        EchoTurns x = new EchoTurns();
+        x.spacings(10, 0, 0, 0);
+        x.target(1, 9, 5, false);
+        x.target(1, 8, -5, false);
+        int[][] wanted = {{0, 1, 0}, {1, 1, 10}, {2, 11, 0}, {118, 591, 0}, {119, 591, 10}};
+        for (int[] one : wanted) {
+            due("16: told(" + one[0] + ", 0)", x.told(one[0], 0), one[1]);
+            due("16: told(" + one[0] + ", 1)", x.told(one[0], 1), one[2]);
+        }
+        due("16: told(120, 0)", x.told(120, 0), NOT_FOUND);
+        due("14: the least pitch", x.echo(0, 0, 1), 0);
+        due("14: its strength", x.echo(0, 0, 2), 8);
+        due("14: the greatest pitch", x.echo(0, 1, 1), 10);
+        due("14: its strength", x.echo(0, 1, 2), 9);
+        due("19: two echoes", x.count(8), 2);
+        due("19: told", x.count(11), 120);
+        x.set(1, 9);
+        due("19: one is too faint", x.count(10), 1);
+        due("19: told", x.count(11), 60);
+        x.drop(1);
+        x.spacings(10, 11, 12, 13);
+        due("19: one in each turn", x.count(8), 4);
+        x.spacings(10, 0, 0, 0);
+        due("19: and one again", x.count(8), 1);
+        x.set(1, 10);
+        due("19: it is too faint", x.count(10), 1);
+        due("19: none is heard", x.count(8), 0);
     }
 
     private static void promise16Blind() {

@@ -2,7 +2,7 @@ import java.util.Random;
 
 /** Runs of chosen calls on fresh objects, each answer compared with the model's. The seeds are fixed, so each run is the same. */
 final class ModelTest {
-    private static final int RUNS = 400;
+    private static final int RUNS = 1000;
     private static final int CALLS = 512;
     private static final int[] EDGES = {
         Integer.MIN_VALUE, -300, -6, -5, -1, 0, 1, 2, 3, 4, 5, 6, 7, 9, 10, 11, 19, 20, 50, 51, 60, 99, 100,
@@ -226,7 +226,7 @@ final class ModelTest {
 
     private void wouldBe(String name) {
         int kind = upTo(12);
-        if (kind == 0) {
+        if (kind < 2) {
             due.same(name + "bestTurn()", real.bestTurn(), model.bestTurn());
         } else if (kind < 7) {
             int spacing = inside(10, 50);

@@ -194,6 +194,11 @@ final class TextTest {
         due("11: far behind the text", x.sign(Integer.MAX_VALUE), NOT_FOUND);
         due("11: ahead of the text", x.sign(-1), INVALID);
         due("11: ahead of the text", x.sign(Integer.MIN_VALUE), INVALID);
+        x.target(100, 9, 0, false);
+        x.target(99, 90, 0, true);
+        due("11: 100 and 99", textOf(x).equals("t300*99-5,w10*10,t101*7+5,t100*9,w99*90;20") ? 1 : 0, 1);
+        x.undo();
+        x.undo();
         x.drop(0);
         x.spacings(50, 10, 31, 49);
         due("11: other spacings", textOf(x).equals("w10*10,t101*7+5;50/10/31/49") ? 1 : 0, 1);

@@ -86,6 +86,12 @@ final class WouldBeTest {
         x.target(5, 9, 0, false);
         // 5 and 585 look alike with 20 and 29; 20 and 31 look alike behind 620 only.
         due("22: the first that leaves no phantom", x.bestTurn(), 31);
+        x.drop(0);
+        x.target(20, 9, 0, false);
+        // 20 and 600 look alike with 20 and 29.
+        due("22: 600 is told, too", x.bestTurn(), 31);
+        x.undo();
+        x.undo();
         x.set(0, 9);
         due("22: lost with all of them", x.bestTurn(), 10);
         x.set(0, 0);
@@ -109,17 +115,45 @@ final class WouldBeTest {
     }
 
     private static void promise22AsIfTurn() {
-        EchoTurns x = sceneOfFour();
+        bestAsIfTurn("four", sceneOfFour());
+        EchoTurns lost = new EchoTurns();
+        lost.target(25, 9, 0, false);
+        lost.target(50, 9, 5, false);
+        lost.target(61, 9, -5, false);
+        lost.target(103, 9, 0, false);
+        bestAsIfTurn("lost", lost);
+        EchoTurns walls = new EchoTurns();
+        walls.spacings(47, 0, 0, 0);
+        walls.target(20, 99, 0, true);
+        walls.target(30, 99, 0, true);
+        walls.target(40, 99, 0, true);
+        walls.target(93, 99, 1, false);
+        walls.target(299, 1, -3, false);
+        walls.target(280, 99, 5, false);
+        bestAsIfTurn("walls", walls);
+        walls.spacings(30, 12, 50, 0);
+        bestAsIfTurn("walls with three turns", walls);
+        walls.spacings(50, 49, 48, 0);
+        bestAsIfTurn("walls with three long turns", walls);
+        EchoTurns farther = new EchoTurns();
+        farther.spacings(50, 0, 0, 0);
+        farther.target(100, 9, 0, false);
+        farther.target(249, 9, 0, true);
+        farther.target(251, 99, 0, true);
+        bestAsIfTurn("farther", farther);
+    }
+
+    private static void bestAsIfTurn(String name, EchoTurns x) {
         for (int blind = 0; blind < 10; blind += 3) {
             x.set(0, blind);
             int best = 10;
-            for (int spacing = 10; spacing <= 50; spacing++) {
+            for (int spacing = 11; spacing <= 50; spacing++) {
                 int wrong = x.ifTurn(spacing, 1) + x.ifTurn(spacing, 2);
                 if (wrong < x.ifTurn(best, 1) + x.ifTurn(best, 2)) {
                     best = spacing;
                 }
             }
-            due("22: with BLIND " + blind, x.bestTurn(), best);
+            due("22: " + name + " with BLIND " + blind, x.bestTurn(), best);
         }
     }
 
