@@ -13,6 +13,7 @@ final class LooksTest {
         promise12();
         promise12Lost();
         promise13();
+        promise13AllWalls();
         promise14();
         promise14Together();
         promise15();
@@ -140,6 +141,29 @@ final class LooksTest {
         x.target(150, 2, 0, true);
         due("13: 2 times 99 is none", x.count(2), 1);
         due("13: those behind it move up", x.ghost(1, 0), NOT_FOUND);
+    }
+
+    private static void promise13AllWalls() {
+        EchoTurns x = new EchoTurns();
+        for (int i = 0; i < 6; i++) {
+            x.target(100 + i * i, 90 + i, 0, true);
+        }
+        int ghost = 0;
+        for (int i = 0; i < 6; i++) {
+            for (int j = i + 1; j < 6; j++) {
+                due("13: distance of ghost " + ghost, x.ghost(ghost, 0), 100 + 2 * j * j - i * i);
+                due("13: strength of ghost " + ghost, x.ghost(ghost, 1), (90 + i) * (90 + j) / 200);
+                due("13: lesser of ghost " + ghost, x.ghost(ghost, 2), i);
+                due("13: greater of ghost " + ghost, x.ghost(ghost, 3), j);
+                ghost++;
+            }
+        }
+        due("13: fifteen", x.count(2), 15);
+        due("13: no sixteenth", x.ghost(15, 0), NOT_FOUND);
+        due("12: five of them", x.targetOf(5, 6), 5);
+        x.set(1, 99);
+        due("19: 21 are too faint", x.count(10), 21);
+        due("19: 21 are missed", x.count(13), 21);
     }
 
     private static void promise14() {

@@ -115,6 +115,14 @@ final class WouldBeTest {
     }
 
     private static void promise22AsIfTurn() {
+        EchoTurns longest = new EchoTurns();
+        longest.spacings(17, 0, 0, 0);
+        longest.target(262, 9, 0, false);
+        longest.target(290, 9, 0, false);
+        longest.target(140, 9, 0, false);
+        bestAsIfTurn("longest", longest);
+        longest.set(0, 0);
+        due("22: the longest is the best", longest.bestTurn(), 50);
         bestAsIfTurn("four", sceneOfFour());
         EchoTurns lost = new EchoTurns();
         lost.target(25, 9, 0, false);
