@@ -519,8 +519,11 @@ public final class EchoTurns {
             System.arraycopy(other.distances, 0, distances, 0, MOST_TARGETS);
             System.arraycopy(other.strengths, 0, strengths, 0, MOST_TARGETS);
             System.arraycopy(other.movements, 0, movements, 0, MOST_TARGETS);
-            System.arraycopy(other.walls, 0, walls, 0, MOST_TARGETS);
             System.arraycopy(other.spacing, 0, spacing, 0, MOST_TURNS);
+            // LANGUAGE.md has arraycopy for arrays of numbers alone.
+            for (int target = 0; target < MOST_TARGETS; target++) {
+                walls[target] = other.walls[target];
+            }
             targets = other.targets;
             turns = other.turns;
             blind = other.blind;

@@ -213,6 +213,21 @@ final class NumberEdgesTest {
         E.same("where one is lost in one of two", Edges.scene("t20*9,t29*9;20/50", 9, 1).count(8), 3);
         E.same("where one is too faint", Edges.scene("t20*9,t29*8;20/50", 0, 9).count(8), 2);
         E.same("where all are too faint", Edges.scene("t20*9,t29*8;20/50", 0, 10).count(8), 0);
+        for (int movement = -5; movement <= 5; movement++) {
+            EchoTurns moving = Edges.scene("t20*9;20/30/40/50");
+            moving.target(25, 9, movement, false);
+            E.same("with the pitch " + movement, moving.count(8), 8);
+            moving.drop(1);
+            E.same("when the one with the pitch " + movement + " went", moving.count(8), 4);
+            moving.drop(0);
+            E.same("when all went", moving.count(8), 0);
+            moving.target(25, 9, movement, false);
+            E.same("when it is back", moving.count(8), 4);
+            moving.spacings(20, 0, 0, 0);
+            E.same("in one turn where there were four", moving.count(8), 1);
+            moving.set(1, 10);
+            E.same("when it is too faint", moving.count(8), 0);
+        }
         EchoTurns many = Edges.scene("w1*20,w3*20,w7*20,w15*20,w31*20,w63*20;50/50/50/50");
         E.same("sixteen in each of four turns", many.count(8), 64);
     }

@@ -262,8 +262,12 @@ final class TermsChangeEdgesTest {
         E.same("seven, the first two alike", Edges.pad("t1*1,t1*2,t3*1,t4*1,t5*1,t6*1,t7*1").load(), Edges.NOT_POSSIBLE);
         E.same("seven, the last two alike", Edges.pad("t1*1,t2*1,t3*1,t4*1,t5*1,t7*2,t7*1").load(), Edges.NOT_POSSIBLE);
         E.same("eight, the last two alike", Edges.pad("t1*1,t2*1,t3*1,t4*1,t5*1,t6*1,t7*1,w7*2").load(), Edges.NOT_POSSIBLE);
-        E.same("twelve, the last like the first", Edges.pad("t1*1,t2*1,t3*1,t4*1,t5*1,t6*1,t7*1,t8*1,t9*1,w2*1,w3*1,w1*1").load(),
-            Edges.NOT_POSSIBLE);
+        String nine = "t1*1,t2*1,t3*1,t4*1,t5*1,t6*1,t7*1,t8*1,t9*1";
+        E.same("nine", Edges.pad(nine).load(), Edges.LIMIT);
+        E.same("ten, the last like the ninth", Edges.pad(nine + ",w9*1").load(), Edges.NOT_POSSIBLE);
+        E.same("eleven, none like another", Edges.pad(nine + ",w10*1,w11*1").load(), Edges.LIMIT);
+        E.same("eleven, the last like the first", Edges.pad(nine + ",t10*1,w1*9").load(), Edges.NOT_POSSIBLE);
+        E.same("twelve, the last two like others", Edges.pad(nine + ",t10*1,w1*1,w2*1").load(), Edges.NOT_POSSIBLE);
         E.same("seven with a fault", Edges.pad("t1*1,t2*1,t3*1,t4*1,t5*1,t6*1,t7*1,").load(), Edges.NOT_POSSIBLE);
         E.same("seven without", Edges.pad("t1*1,t2*1,t3*1,t4*1,t5*1,t6*1,t7*1").load(), Edges.LIMIT);
         E.of("Changes and errors", " and LIMIT_REACHED rather than NOT_FOUND.");

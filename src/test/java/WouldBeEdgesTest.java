@@ -15,6 +15,7 @@ final class WouldBeEdgesTest {
         bestTurnReturns();
         bestTurnOfSeveral();
         bestTurnAsIfTurn();
+        bestTurnBehindOthers();
         bestTurnLimit();
         ifWallRanges();
         ifWallReturns();
@@ -104,6 +105,10 @@ final class WouldBeEdgesTest {
         E.same("1 with 50", Edges.scene("t1*9;50").bestTurn(), 13);
         EchoTurns last = Edges.scene("t140*9,t262*9,t290*9;17");
         E.same("the longest spacing", last.bestTurn(), 50);
+        E.same("1 as a distance, and 0 as none", Edges.scene("t300*9+5;49/50", 1, 1).bestTurn(), 10);
+        E.same("0 with the pitch -5 is none either", Edges.scene("t265*9-5;49").bestTurn(), 10);
+        // With 10 it is lost in both turns, which is 1 missed one; with 11 it alone is told.
+        E.same("a missed one is worse than none", Edges.scene("t225*9+5;45", 1, 1).bestTurn(), 11);
         // With 10 it stays lost, which is 1 missed one; no spacing leaves less.
         EchoTurns lost = Edges.scene("t300*9;10", 9, 1);
         E.same("a missed one counts as a phantom does", lost.bestTurn(), 10);
@@ -134,6 +139,27 @@ final class WouldBeEdgesTest {
                 E.same("bestTurn() of " + scene + ", BLIND " + blind, x.bestTurn(), best);
                 E.same("bestTurn() again", x.bestTurn(), best);
             }
+        }
+    }
+
+    private static void bestTurnBehindOthers() {
+        E.of("Promise 22", "Returns the spacing with which the phantoms and the missed ones would be fewest together,");
+        EchoTurns fewer = Edges.scene("t225*9+5,t7*9;45", 1, 1);
+        E.same("of two", fewer.bestTurn(), 31);
+        fewer.drop(1);
+        E.same("of the one that is left", fewer.bestTurn(), 11);
+        EchoTurns turns = Edges.scene("t7*9;45/44/43/42", 1, 1);
+        E.same("in four turns", turns.count(8), 4);
+        Edges.append(turns, "t225*9+5;45");
+        turns.load();
+        E.same("in one turn where there were four", turns.bestTurn(), 11);
+        EchoTurns x = new EchoTurns();
+        String[] scenes = {"t10*9-5,t20*9-3;20", "t20*9-3;20", "t300*9;49", "t30*9;49", "t10*9-5;10", "t300*9+5;49/50", "t5*9;20/30/40",
+            "t1*9;50"};
+        for (String scene : scenes) {
+            Edges.append(x, scene);
+            x.load();
+            E.same("behind other scenes: " + scene, x.bestTurn(), Edges.scene(scene).bestTurn());
         }
     }
 

@@ -130,19 +130,9 @@ final class WouldBeTest {
         lost.target(61, 9, -5, false);
         lost.target(103, 9, 0, false);
         bestAsIfTurn("lost", lost);
-        EchoTurns walls = new EchoTurns();
-        walls.spacings(47, 0, 0, 0);
-        walls.target(20, 99, 0, true);
-        walls.target(30, 99, 0, true);
-        walls.target(40, 99, 0, true);
-        walls.target(93, 99, 1, false);
-        walls.target(299, 1, -3, false);
-        walls.target(280, 99, 5, false);
-        bestAsIfTurn("walls", walls);
-        walls.spacings(30, 12, 50, 0);
-        bestAsIfTurn("walls with three turns", walls);
-        walls.spacings(50, 49, 48, 0);
-        bestAsIfTurn("walls with three long turns", walls);
+        bestAsIfTurn("walls", walls(47, 0, 0));
+        bestAsIfTurn("walls with three turns", walls(30, 12, 50));
+        bestAsIfTurn("walls with three long turns", walls(50, 49, 48));
         EchoTurns farther = new EchoTurns();
         farther.spacings(50, 0, 0, 0);
         farther.target(100, 9, 0, false);
@@ -151,15 +141,28 @@ final class WouldBeTest {
         bestAsIfTurn("farther", farther);
     }
 
+    private static EchoTurns walls(int first, int second, int third) {
+        EchoTurns x = new EchoTurns();
+        x.spacings(first, second, third, 0);
+        x.target(20, 99, 0, true);
+        x.target(30, 99, 0, true);
+        x.target(40, 99, 0, true);
+        x.target(93, 99, 1, false);
+        x.target(299, 1, -3, false);
+        x.target(280, 99, 5, false);
+        return x;
+    }
+
+    /** Some 340 calls: an object is used for 512 at most. */
     private static void bestAsIfTurn(String name, EchoTurns x) {
         for (int blind = 0; blind < 10; blind += 3) {
             x.set(0, blind);
-            int best = 10;
-            for (int spacing = 11; spacing <= 50; spacing++) {
+            int best = 0;
+            int fewest = MAX;
+            for (int spacing = 10; spacing <= 50; spacing++) {
                 int wrong = x.ifTurn(spacing, 1) + x.ifTurn(spacing, 2);
-                if (wrong < x.ifTurn(best, 1) + x.ifTurn(best, 2)) {
-                    best = spacing;
-                }
+                best = wrong < fewest ? spacing : best;
+                fewest = Math.min(wrong, fewest);
             }
             due("22: " + name + " with BLIND " + blind, x.bestTurn(), best);
         }
