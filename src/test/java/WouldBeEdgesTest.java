@@ -3,7 +3,8 @@ final class WouldBeEdgesTest {
     private static final Edges E = new Edges("WouldBeEdgesTest");
     private static final int[] FAR_OUT = {Edges.MIN, Edges.MIN + 20, -20, -1, 1000, Edges.MAX - 1, Edges.MAX};
     private static final String[] SCENES = {"t300*9;10", "w20*99,w30*99,t7*9-3;17/29", "t9*9-5,t9*9+5,t100*1;50/49/48",
-        "w5*40,w9*50,w14*60,w22*70,t41*9+2,t63*8-2;12", "t39*9,t40*9;10/20/40"};
+        "w5*40,w9*50,w14*60,w22*70,t41*9+2,t63*8-2;12", "t39*9,t40*9;10/20/40",
+        "t3*9+3;10", "t39*20-5,t49*20-3,t59*20-1,t69*20+1,t79*20+3,t89*20+5;10"};
 
     private WouldBeEdgesTest() {
     }
