@@ -1,9 +1,13 @@
 import java.io.IOException;
+import java.lang.reflect.Field;
+import java.lang.reflect.Method;
+import java.lang.reflect.Modifier;
 import java.nio.file.Files;
 import java.nio.file.Path;
+import java.util.ArrayList;
 import java.util.List;
 
-/** What can be seen of LANGUAGE.md in the program's text: words that it rules out, and the lengths that it sets. */
+/** What can be seen of LANGUAGE.md in the program: words that it rules out, and the numbers and lengths that it sets. */
 final class RulesTest {
     private static final Path PROGRAM = Path.of("src/main/java/EchoTurns.java");
     private static final String[] RULED_OUT = {
@@ -13,6 +17,8 @@ final class RulesTest {
     };
     private static final int MOST_LINES = 60;
     private static final int MOST_CLASSES = 12;
+    private static final int MOST_PARAMETERS = 7;
+    private static final int MOST_FIELDS = 20;
 
     private RulesTest() {
     }
@@ -28,7 +34,33 @@ final class RulesTest {
         due.same("all signs are 1 to 127", text.chars().allMatch(sign -> sign < 128) ? 1 : 0, 1);
         lookAtLengths(due, Files.readAllLines(PROGRAM));
         due.same("rows are made in constructors alone", madeInMethods(Files.readAllLines(PROGRAM)), 0);
+        lookAtClass(due, EchoTurns.class);
+        for (Class<?> inside : EchoTurns.class.getDeclaredClasses()) {
+            int modifiers = inside.getModifiers();
+            due.same(inside + " is static and not to be seen from elsewhere", Modifier.isStatic(modifiers)
+                && !Modifier.isPublic(modifiers) && !Modifier.isProtected(modifiers) ? 1 : 0, 1);
+            lookAtClass(due, inside);
+        }
         due.end();
+    }
+
+    private static void lookAtClass(Due due, Class<?> one) {
+        List<String> face = new ArrayList<>();
+        for (Method method : EchoTurns.class.getMethods()) {
+            face.add(method.getName());
+        }
+        for (Method method : one.getDeclaredMethods()) {
+            due.same(method + " has not too many parameters", method.getParameterCount() <= MOST_PARAMETERS ? 1 : 0, 1);
+            boolean hidden = Modifier.isPrivate(method.getModifiers());
+            due.same(method + " is private with the name of a public one", hidden && face.contains(method.getName()) ? 1 : 0, 0);
+        }
+        int fields = 0;
+        for (Field field : one.getDeclaredFields()) {
+            fields += Modifier.isStatic(field.getModifiers()) ? 0 : 1;
+            boolean changing = Modifier.isStatic(field.getModifiers()) && !Modifier.isFinal(field.getModifiers());
+            due.same(field + " is static and not final", changing ? 1 : 0, 0);
+        }
+        due.same(one + " has not too many fields", fields <= MOST_FIELDS ? 1 : 0, 1);
     }
 
     /** The lines without comments. */
